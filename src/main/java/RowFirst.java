@@ -216,10 +216,7 @@ public final class RowFirst {
         if (!scale.isLawful(line)) {
             return STATE;
         }
-        if (k >= n || !chooser.findBest(scale, duel, line, n)) {
-            return NONE;
-        }
-        return chooser.found.signAt(k);
+        return chooser.findBest(scale, duel, line, n) ? chooser.found.signAt(k) : NONE;
     }
 
     public int ring(int a, int b, int c) {
@@ -622,7 +619,7 @@ public final class RowFirst {
         }
 
         boolean isApart(Line row) {
-            return !has(row) && !row.has(this);
+            return firstEndOf(row) == NOT_COME && row.firstEndOf(this) == NOT_COME;
         }
     }
 
@@ -779,23 +776,19 @@ public final class RowFirst {
 
         private long readF(int open) {
             int first = next();
-            if (first != '!' && first != '(') {
-                return readTest();
+            if (first == '!' || first == '(') {
+                if (stuck || open >= MOST_OPEN) {
+                    stuck = true;
+                    return 0;
+                }
+                at++;
+                if (first == '!') {
+                    return ~readF(open + 1);
+                }
+                long where = readE(open + 1);
+                take(')');
+                return where;
             }
-            if (stuck || open >= MOST_OPEN) {
-                stuck = true;
-                return 0;
-            }
-            at++;
-            if (first == '!') {
-                return ~readF(open + 1);
-            }
-            long where = readE(open + 1);
-            take(')');
-            return where;
-        }
-
-        private long readTest() {
             int letter = takeOneOf("sgd");
             int sort = takeOneOf("<=>");
             int number = readNumber();
@@ -803,13 +796,18 @@ public final class RowFirst {
         }
 
         private int readNumber() {
-            int number = takeOneOf("0123456789") - '0';
-            int second = next();
-            if (stuck || number == 0 || second < '0' || second > '9') {
-                return number;
+            int first = next();
+            if (stuck || first < '0' || first > '9') {
+                stuck = true;
+                return 0;
             }
             at++;
-            return number * 10 + second - '0';
+            int second = next();
+            if (first == '0' || second < '0' || second > '9') {
+                return first - '0';
+            }
+            at++;
+            return (first - '0') * 10 + second - '0';
         }
 
         private void readWord(String word) {

@@ -382,6 +382,10 @@ public final class PromisesTest {
         due("count(3)", x.count(3), 0);
         due("pick(0, 0, -1)", x.pick(0, 0, -1), 3);
         due("pick(0, 0, 0)", x.pick(0, 0, 0), 2);
+        strip(x, "2");
+        due("own(0) of one sign", x.own(0), 1);
+        due("pick(0, 0, 0)", x.pick(0, 0, 0), 2);
+        due("pick(0, 0, -1)", x.pick(0, 0, -1), 1);
         due("own(0) of an empty strip", x.own(0), 0);
         due("pick(0, 0, 2) without an own row", x.pick(0, 0, 2), 0);
         due("count(0)", x.count(0), 1);
@@ -544,6 +548,14 @@ public final class PromisesTest {
         due("ring(0, 4, 6)", x.ring(0, 4, 6), -1);
         due("ring(6, 4, 0)", x.ring(6, 4, 0), -1);
         due("ring(0, -1, 4)", x.ring(0, -1, 4), -1);
+        RowFirst y = with("", "000", "001", "010", "0110", "1100");
+        dueOdds(y, 0, 1, 1, 2);
+        due("ring(0, 1, 2), a half", y.ring(0, 1, 2), 0);
+        due("ring(1, 2, 0), a half", y.ring(1, 2, 0), 0);
+        due("ring(2, 0, 1), a half", y.ring(2, 0, 1), 0);
+        due("ring(4, 0, 3)", y.ring(4, 0, 3), 1);
+        due("ring(4, 3, 0), all below a half", y.ring(4, 3, 0), 0);
+        due("ring(1, 3, 4), the last one not", y.ring(1, 3, 4), 0);
     }
 
     private static void duePick(RowFirst x, int player, int row, String want) {
@@ -642,8 +654,9 @@ public final class PromisesTest {
         due("fair(0, 1)", y.fair(0, 1), 9);
         due("fair(2, 1)", y.fair(2, 1), 4);
         due("told(10) is left", y.told(10), 1);
-        RowFirst z = with("signs 3;heavy 3 s>0", "12", "0");
+        RowFirst z = with("signs 3;heavy 3 s>0", "12", "0", "1", "2");
         due("fair(0, 1)", z.fair(0, 1), 2);
+        due("fair(2, 3), of several the least", z.fair(2, 3), 1);
     }
 
     private static void dueWithin(RowFirst x, int row, int n, long top, long low) {
@@ -672,6 +685,16 @@ public final class PromisesTest {
         dueWithin(z, 0, 1, 1, 2);
         dueWithin(z, 0, 2, 3, 4);
         dueWithin(z, 1, 15, 0, 1);
+        RowFirst v = with("", "0010", "11", "01");
+        dueWithin(v, 0, 15, 0, 1);
+        dueWithin(v, 2, 3, 1, 2);
+        dueWithin(v, 1, 2, 1, 4);
+        RowFirst six = with("", "000000", "111111", "010101", "101010", "001100", "110011");
+        for (int row = 0; row < 6; row++) {
+            dueWithin(six, row, 6, 1, 64);
+        }
+        due("free(6) beside six", six.free(6), 58);
+        due("free(7) beside six", six.free(7), 108);
         RowFirst w = with("signs 3;heavy 3 s<3", "000000");
         dueWithin(w, 0, 15, 15299, 1594323);
     }
@@ -763,6 +786,9 @@ public final class PromisesTest {
         due("ends(-1)", x.ends(-1), -1);
         tosses(x, "0101010122");
         due("ends(2)", x.ends(2), 2);
+        tosses(x, "2");
+        due("ends(1) of one throw", x.ends(1), 1);
+        tosses(x, "0101010122");
         due("ends(1), not lawful", x.ends(1), 2);
         tosses(x, "");
         due("ends(0) of none", x.ends(0), 0);
