@@ -36,7 +36,10 @@ public final class ModelTest {
 
     private void due(String call, long got, long want) {
         calls++;
-        check.due("call " + calls + ": " + call, got, want);
+        // What later calls answer is free.
+        if (calls <= CALLS) {
+            check.due("call " + calls + ": " + call, got, want);
+        }
     }
 
     /** Below n as a rule, now and then a number that is none. */
